@@ -178,8 +178,8 @@ public final class HouseDesk {
             return (set >> node & 1) == 1;
         }
 
-        /** The least node of a set, NODES if it is empty. */
-        static int least(int set) {
+        /** The lowest node of a set, NODES if it is empty. */
+        static int lowest(int set) {
             int node = 0;
             while (node < NODES && !has(set, node)) {
                 node++;
@@ -187,7 +187,7 @@ public final class HouseDesk {
             return node;
         }
 
-        static int withoutLeast(int set) {
+        static int withoutLowest(int set) {
             return set & (set - 1);
         }
     }
@@ -454,7 +454,7 @@ public final class HouseDesk {
         }
 
         boolean reachAll() {
-            int reached = 1 << Bits.least(sketch.drawn);
+            int reached = 1 << Bits.lowest(sketch.drawn);
             for (int round = 0; round < ROOMS; round++) {
                 for (int i = 0; i < ROOMS; i++) {
                     if (Bits.has(reached, i)) {
@@ -596,20 +596,20 @@ public final class HouseDesk {
                 }
             }
             if (best != 0) {
-                int others = Bits.withoutLeast(best);
-                found.tellThree(Bits.least(best), Bits.least(others), Bits.least(Bits.withoutLeast(others)));
+                int others = Bits.withoutLowest(best);
+                found.tellThree(Bits.lowest(best), Bits.lowest(others), Bits.lowest(Bits.withoutLowest(others)));
             }
             return best != 0;
         }
 
         private static int threeLeast(int rooms) {
-            int others = Bits.withoutLeast(Bits.withoutLeast(Bits.withoutLeast(rooms)));
+            int others = Bits.withoutLowest(Bits.withoutLowest(Bits.withoutLowest(rooms)));
             return rooms ^ others;
         }
 
         /** The set that has the least room in which two sets of one size differ comes first. */
         private static boolean comesBefore(int some, int others) {
-            return Bits.has(some, Bits.least(some ^ others));
+            return Bits.has(some, Bits.lowest(some ^ others));
         }
 
         boolean isFace(int rooms) {
@@ -682,12 +682,12 @@ public final class HouseDesk {
                 near[ROOMS + s] = bitOfSide(sideBehind(s)) | bitOfSide(sideBefore(s));
             }
             for (int s = 0; s < SIDES; s++) {
-                int k = walks.placeOf[sketch.corner[s]];
+                int room = sketch.corner[s];
                 int steps = stepsAlong(s);
                 for (int step = 0; step <= steps; step++) {
-                    int room = walks.outline[(k + step) % walks.length];
                     near[ROOMS + s] |= 1 << room;
                     near[room] |= bitOfSide(s);
+                    room = walks.roomBehind(walks.placeOf[room]);
                 }
             }
         }
@@ -808,8 +808,8 @@ public final class HouseDesk {
         private void listRooms(int f) {
             int rest = walks.faceRooms[f];
             for (int k = 3 * f; k < 3 * f + 3; k++) {
-                bounding[k] = Bits.least(rest);
-                rest = Bits.withoutLeast(rest);
+                bounding[k] = Bits.lowest(rest);
+                rest = Bits.withoutLowest(rest);
             }
         }
 
@@ -821,7 +821,7 @@ public final class HouseDesk {
                 known |= 1 << order[k];
             }
             int size = walks.length;
-            for (int k = 0; k < size; k++) {
+            for (int k = 0; k < size && k < ROOMS; k++) {
                 for (int j = 0; j < ROOMS; j++) {
                     if (sketch.areJoined(order[k], j) && !Bits.has(known, j)) {
                         order[size] = j;
