@@ -858,6 +858,7 @@ public final class HouseDesk {
             }
         }
 
+        /** Leaves a choice early if a room would have too few faces left to be straight in. */
         private boolean canBeMet(int f) {
             for (int k = 3 * f; k < 3 * f + 3; k++) {
                 if (needed[bounding[k]] > open[bounding[k]]) {

@@ -8,6 +8,7 @@ public final class PlanTest {
         crossingsInOrder();
         notRound();
         wideFaces();
+        outlines();
         wrongCorners();
         sharedCorners();
         looseTriangles();
@@ -33,6 +34,7 @@ public final class PlanTest {
         judge("8: beside one another", new int[][] {{0, 0, 0}, {1, 9, 0}, {2, 0, 1}, {3, 9, 1}},
             new int[][] {{0, 1}, {2, 3}}, 2, -1, -1, -1);
         judge("8: a room on a join", line, new int[][] {{0, 1}}, 0, 0, 2, -1);
+        judge("8: room 0 on a join", new int[][] {{1, 0, 31}, {0, 15, 16}, {2, 30, 1}}, new int[][] {{1, 2}}, 0, 0, 0, -1);
         judge("8: a room on a join upward", new int[][] {{0, 4, 0}, {1, 4, 31}, {2, 4, 30}}, new int[][] {{1, 0}}, 0, 0, 2, -1);
         judge("8: a room behind a join's end", new int[][] {{0, 4, 0}, {1, 4, 29}, {2, 4, 30}}, new int[][] {{1, 0}}, 2, -1, -1, -1);
         judge("8: a room close to a join", new int[][] {{0, 0, 0}, {1, 31, 30}, {2, 1, 1}}, new int[][] {{0, 1}}, 2, -1, -1, -1);
@@ -85,6 +87,23 @@ public final class PlanTest {
             new int[][] {{4, 1}, {1, 2}, {2, 4}, {3, 4}}, 3, 1, 2, 3);
         judge("8: a long outline", new int[][] {{8, 0, 9}, {7, 9, 0}, {6, 18, 0}, {5, 27, 9}, {4, 13, 20}},
             new int[][] {{8, 7}, {7, 6}, {6, 5}, {5, 4}, {4, 8}}, 3, 4, 5, 6);
+    }
+
+    private static void outlines() {
+        int[][] column = {{0, 0, 10}, {1, 0, 0}, {2, 0, 20}, {3, 10, 10}};
+        HouseDesk desk = Houses.draw(column, new int[][] {{0, 1}, {0, 2}, {0, 3}, {1, 3}, {2, 3}});
+        check.due("8: three rooms furthest west", desk.plan(), 4);
+        check.due("16: three rooms furthest west", Houses.counts(desk), 4, 5, 4, 2, 0);
+        check.due("8: clockwise from the lowest of them", planWith(desk, 1, 0, 2, 3), 1);
+        check.due("8: and from any other", planWith(desk, 2, 3, 1, 0), 1);
+        int[][] ring = {{0, 0, 16}, {1, 4, 4}, {2, 16, 0}, {3, 24, 3}, {4, 30, 12}, {5, 31, 20}, {6, 24, 30}, {7, 14, 31}, {8, 3, 26}};
+        int[][] joins = new int[9][];
+        for (int i = 0; i < 9; i++) {
+            joins[i] = new int[] {i, (i + 1) % 9};
+        }
+        HouseDesk nine = Houses.draw(ring, joins);
+        check.due("9: nine rooms around nothing", Houses.plan(nine), 3, 0, 1, 2);
+        check.due("16: nine rooms around nothing", Houses.counts(nine), 9, 9, 9, 1, 0);
     }
 
     private static int planWith(HouseDesk desk, int a, int b, int c, int d) {
