@@ -2,12 +2,34 @@
 final class Check {
     private int asked;
     private int wrong;
+    private int sentences;
+    private String by = "";
+
+    /** The document's words by which the answers that follow are due. */
+    void sentence(String promise, String words) {
+        sentences++;
+        by = promise + " \"" + words + "\": ";
+    }
+
+    /** Runs each test, also behind one that is stopped by an exception that is not due. */
+    void each(Runnable... tests) {
+        for (Runnable test : tests) {
+            by = "";
+            try {
+                test.run();
+            } catch (RuntimeException e) {
+                wrong++;
+                System.out.println(by + "stopped by " + e);
+                e.printStackTrace(System.out);
+            }
+        }
+    }
 
     void due(String call, long got, long want) {
         asked++;
         if (got != want) {
             wrong++;
-            System.out.println(call + " answered " + got + ", due is " + want);
+            System.out.println(by + call + " answered " + got + ", due is " + want);
         }
     }
 
@@ -16,7 +38,7 @@ final class Check {
         asked++;
         if (!java.util.Arrays.equals(got, want)) {
             wrong++;
-            System.out.println(call + " answered " + java.util.Arrays.toString(got) + ", due is "
+            System.out.println(by + call + " answered " + java.util.Arrays.toString(got) + ", due is "
                 + java.util.Arrays.toString(want));
         }
     }
@@ -31,12 +53,13 @@ final class Check {
         }
         if (!got.equals(want.getName())) {
             wrong++;
-            System.out.println(call + " threw " + got + ", due is " + want.getName());
+            System.out.println(by + call + " threw " + got + ", due is " + want.getName());
         }
     }
 
     void end() {
-        System.out.println(asked + " answers, " + wrong + " not as due");
+        String told = sentences == 0 ? "" : sentences + " sentences, ";
+        System.out.println(told + asked + " answers, " + wrong + " not as due");
         if (wrong != 0) {
             System.exit(1);
         }

@@ -39,6 +39,40 @@ final class Houses {
         return desk;
     }
 
+    /** Nine rooms with 21 joins, none crossing: rooms 2 to 8 in a row, each joined with 0 and 1. */
+    static HouseDesk full() {
+        HouseDesk desk = new HouseDesk();
+        drawFull(desk);
+        return desk;
+    }
+
+    static void drawFull(HouseDesk desk) {
+        add(desk, new int[][] {{0, 0, 0}, {1, 31, 0}, {2, 15, 31}}, new int[][] {{0, 1}, {1, 2}, {2, 0}});
+        for (int i = 3; i < 9; i++) {
+            add(desk, new int[][] {{i, 15, 38 - 4 * i}}, new int[][] {{i, 0}, {1, i}, {i - 1, i}});
+        }
+    }
+
+    /** Eight rooms around room 8, clockwise from room 0 in the north-west; a plan of nine rooms. */
+    static HouseDesk ring() {
+        HouseDesk desk = draw(new int[][] {{0, 2, 29}, {1, 16, 31}, {2, 30, 29}, {3, 31, 16}, {4, 29, 2}, {5, 16, 0},
+            {6, 2, 3}, {7, 0, 15}, {8, 16, 16}}, new int[0][]);
+        for (int i = 0; i < 8; i++) {
+            desk.join(i, (i + 1) % 8);
+            desk.join(8, i);
+        }
+        desk.corners(0, 2, 4, 6);
+        return desk;
+    }
+
+    /** The triangle with the plan in which 0 is at the left, 1 below 2. */
+    static HouseDesk planned() {
+        HouseDesk desk = triangle();
+        desk.corners(0, 2, 1, 0);
+        desk.plan();
+        return desk;
+    }
+
     static int[] rect(HouseDesk desk, int i) {
         return new int[] {desk.rect(i, 0), desk.rect(i, 1), desk.rect(i, 2), desk.rect(i, 3)};
     }
