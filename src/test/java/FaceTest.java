@@ -9,6 +9,8 @@ import java.util.Arrays;
 import java.util.List;
 import java.util.Set;
 import java.util.TreeSet;
+import java.util.regex.Matcher;
+import java.util.regex.Pattern;
 
 /** The document's public face, and those rules of LANGUAGE.md that can be read off the class. */
 public final class FaceTest {
@@ -35,6 +37,7 @@ public final class FaceTest {
         face();
         inside();
         source();
+        methods();
         System.out.println(wrong == 0 ? "the face is as due" : wrong + " faults");
         if (wrong != 0) {
             System.exit(1);
@@ -92,9 +95,12 @@ public final class FaceTest {
                 need(!names.contains(m.getName()), m + " has a name of the face");
                 need(m.getParameterCount() <= 7, m + " has too many parameters");
             }
+            int fields = 0;
             for (Field f : c.getDeclaredFields()) {
                 need(!Modifier.isStatic(f.getModifiers()) || Modifier.isFinal(f.getModifiers()), f + " is static state");
+                fields += Modifier.isStatic(f.getModifiers()) ? 0 : 1;
             }
+            need(fields <= 20, c + " has too many fields");
         }
     }
 
@@ -109,6 +115,24 @@ public final class FaceTest {
             need(!makes || allowed, "line " + (k + 1) + " makes something: " + line);
             need(comment || !line.contains("->") && !line.contains("::"), "line " + (k + 1) + " has a lambda");
             need(!line.startsWith("import ") || line.equals("import java.util.NoSuchElementException;"), line);
+        }
+    }
+
+    /** The library's functions that LANGUAGE.md lists, and methods that stay short. */
+    private static void methods() throws IOException {
+        List<String> lines = Files.readAllLines(Path.of("src/main/java/HouseDesk.java"));
+        Pattern library = Pattern.compile("\\b(Integer|Long|Math|Arrays|System|String|Character|Objects)\\.\\w+");
+        Pattern opening = Pattern.compile("( +)[^/*].*\\) (throws [\\w, ]+ )?\\{");
+        for (int k = 0; k < lines.size(); k++) {
+            Matcher used = library.matcher(lines.get(k));
+            while (used.find()) {
+                need(Set.of("Math.min", "Math.max", "Integer.bitCount").contains(used.group()), used.group() + " is used");
+            }
+            Matcher begun = opening.matcher(lines.get(k));
+            if (begun.matches()) {
+                int end = lines.subList(k, lines.size()).indexOf(begun.group(1) + "}");
+                need(end < 60, "line " + (k + 1) + " begins what is too long");
+            }
         }
     }
 }
